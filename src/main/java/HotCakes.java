@@ -1318,19 +1318,23 @@ public final class HotCakes {
                 int block = at(FACTORIALS, cakes - 1 - place);
                 int skip = block > 0 ? rest / block : 0;
                 rest -= skip * block;
-                int cake = bitBehind(free, skip);
+                int cake = cakeBehind(free, skip);
                 free &= ~(1 << cake);
                 put(cakesByPlace, order * MOST_CAKES + place, cake);
             }
         }
 
-        /** The lowest of the bits, but for so many still lower ones. */
-        private static int bitBehind(int bits, int skip) {
-            int rest = bits;
-            for (int i = 0; i < skip; i++) {
-                rest &= rest - 1;
+        /** The least cake of a set, but for so many still lesser ones. */
+        private int cakeBehind(int set, int skip) {
+            int rest = skip;
+            for (int cake = 0; cake < cakes; cake++) {
+                boolean inSet = (set >> cake & 1) == 1;
+                if (inSet && rest == 0) {
+                    return cake;
+                }
+                rest -= inSet ? 1 : 0;
             }
-            return Integer.numberOfTrailingZeros(rest);
+            return 0;
         }
 
         private void learnTurn(int order, int many) {
@@ -1570,28 +1574,29 @@ public final class HotCakes {
         private final int leftOut;
         private final int[] turns = new int[MOST_STACKS];
         private int origin = NONE;
+        private boolean known;
 
         Steps(Stacks stacks, boolean back, int leftOut) {
             this.stacks = stacks;
             this.back = back;
             this.leftOut = leftOut;
-            Arrays.fill(turns, NONE);
         }
 
         void forget() {
-            origin = NONE;
-            Arrays.fill(turns, NONE);
+            known = false;
         }
 
+        /** No stack (NONE): it is never come to. */
         void learn(int asked) {
-            if (asked == origin) {
+            if (known && asked == origin) {
                 return;
             }
-            forget();
+            known = true;
+            origin = asked;
+            Arrays.fill(turns, NONE);
             if (asked < 0 || asked >= stacks.all()) {
                 return;
             }
-            origin = asked;
             int[] queue = stacks.queue();
             put(turns, asked, 0);
             put(queue, 0, asked);
