@@ -53,6 +53,10 @@ public final class CooksTest {
         x.turn(2);
         CHECK.due("the other one is the first one now", x.wins(0), 1);
         CHECK.due("and serves", x.his(), 1);
+        CHECK.promise(38, "his, asked first");
+        CHECK.due("he serves", Check.with(Check.stack("browned", -2, -1)).his(), 2);
+        CHECK.due("another griddle", Check.griddle(x, Check.stack("browned", -1, 2)) + x.his(), 1);
+        CHECK.due("another law", Check.griddle(x, Check.stack("browned", -1, 2) + "bars 1;") + x.his(), -1);
     }
 
     private static void seeing() {
@@ -149,6 +153,23 @@ public final class CooksTest {
         CHECK.due("the place where all differ", w.look(), 0);
         w.see(0, 2, false);
         CHECK.due("two fit, and the last is the same", w.look(), 0);
+        HotCakes v = Check.with("cake a browned wide 1 up; cake b plain wide 2 up; cake c plain wide 3 up;");
+        v.see(0, 2, false);
+        v.see(1, 2, true);
+        // a c b, b c a, a up or down: at 0 there are b twice, a down, a up; so at 2
+        CHECK.due("a up and a down are two", v.look() * 10 + v.fit(), 4);
+        v.see(0, 1, false);
+        CHECK.due("a up or down", v.look() * 10 + v.fit(), 2);
+        HotCakes u = Check.with("cake a browned wide 1 up; cake b browned wide 2 up; cake c plain wide 3 up;");
+        u.see(0, 2, false);
+        u.see(1, 1, false);
+        // a c b, b a c, b c a, 4 each: at 0 b lies so in 4, at 1 c in 8, at 2 c in 4
+        CHECK.due("the place with c twice is worse", u.look(), 0);
+        u.see(0, 0, false);
+        // b a c, b c a: at 0 b in 4, at 1 c in 4, at 2 c in 4
+        u.lies(0, true);
+        // at 0 all are alike, at 1 c in 2, a in 1 and 1
+        CHECK.due("the first of those that are less", u.look() * 10 + u.fit(), 14);
     }
 
     private static void chances() {
@@ -174,6 +195,10 @@ public final class CooksTest {
         CHECK.due("ever, four of nine", three.chance(2, true), 444444);
         HotCakes bars = Check.with(Check.stack("plain", 1, 2) + "bars take = 2;");
         CHECK.due("what can't be leaves it", bars.chance(6, false), 1000000);
+        HotCakes one = Check.with(Check.stack("browned", -1));
+        CHECK.due("one alone", one.chance(1, false), 1000000);
+        CHECK.due("one alone, twice", one.chance(2, false), 0);
+        CHECK.due("one alone, ever", one.chance(2, true), 1000000);
         HotCakes five = Check.with(Check.stack("plain", 5, 4, 3, 2, 1));
         CHECK.due("one of five", five.chance(1, false), 200000);
         CHECK.due("it is as it was", five.pairs(), 10);

@@ -138,6 +138,9 @@ public final class FewestTest {
         CHECK.due("1, 2, 3, 2", longer.least(), 4);
         CHECK.due("a longer way without 1", longer.without(1), 8);
         CHECK.due("4 is not needed", longer.without(4), 4);
+        Check.griddle(longer, Check.stack("browned", 1, 3, 2, 4) + "bars take = 3;");
+        CHECK.due("another griddle, without 1", longer.without(1), -1);
+        CHECK.due("another griddle, without 4", longer.without(4), longer.least());
         CHECK.promise(20, "needed");
         CHECK.due("2 and 3", x.needed(), 6);
         CHECK.due("served", Check.with(Check.stack("plain", 1, 2)).needed(), 0);
@@ -169,6 +172,12 @@ public final class FewestTest {
         CHECK.due("toward it", x.toward(), 1);
         Check.griddle(x, Check.stack("browned", 1, 2));
         CHECK.due("the wish is gone", x.far(), -1);
+        Check.wish(x, "b down a up");
+        CHECK.due("as far as ever", x.far(), 2);
+        Check.griddle(x, Check.stack("browned", 1, 2) + "bars take = 2;");
+        Check.wish(x, "b down a up");
+        CHECK.due("the same wish by another law", x.far(), -1);
+        Check.griddle(x, Check.stack("browned", 1, 2));
         CHECK.due("toward none", x.toward(), -1);
         HotCakes y = lost();
         Check.wish(y, "g up h down");

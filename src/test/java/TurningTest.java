@@ -105,7 +105,7 @@ public final class TurningTest {
         CHECK.due("none costs now", x.count(3), 0);
         CHECK.due("no more", x.undo(), false);
         HotCakes y = Check.with(Check.stack("browned", 1, 2, 3) + "costs take;");
-        for (int i = 0; i < 20; i++) {
+        for (int i = 0; i < 19; i++) {
             y.turn(2 + i % 2);
         }
         CHECK.due("16 at most", y.count(8), 16);
@@ -113,13 +113,13 @@ public final class TurningTest {
             CHECK.due("the last 16", y.undo(), true);
         }
         CHECK.due("a 17th", y.undo(), false);
-        CHECK.due("4 turns stay", y.count(2), 4);
-        CHECK.due("so do their costs", y.count(3), 10);
+        CHECK.due("3 turns stay", y.count(2), 3);
+        CHECK.due("so do their costs", y.count(3), 7);
         HotCakes z = Check.with(Check.stack("browned", 1, 2, 3));
-        for (int i = 0; i < 4; i++) {
+        for (int i = 0; i < 3; i++) {
             z.turn(2 + i % 2);
         }
-        CHECK.due("the stack of the 4 turns", order(y), order(z));
+        CHECK.due("the stack of the 3 turns", order(y), order(z));
         HotCakes b = Check.with(Check.stack("browned", 1, 2) + "bars brown;");
         b.turn(1);
         CHECK.due("what bars would bar is undone", b.undo() && b.cake(0, 3) == 0, true);
@@ -220,6 +220,18 @@ public final class TurningTest {
         CHECK.due("as it was", order(x) == 3214 && x.count(7) == 1, true);
         CHECK.due("other marks stay empty", x.mark(1, true), false);
         CHECK.due("laid over", x.mark(3, false) && x.mark(3, true) && x.count(2) == 1, true);
+        HotCakes y = Check.with(Check.stack("browned", 1, 2));
+        y.mark(0, false);
+        y.lies(0, true);
+        y.see(0, 1, true);
+        y.mark(1, false);
+        y.mark(0, true);
+        CHECK.due("none was seen then", y.fit(), 8);
+        y.see(1, 1, true);
+        CHECK.due("other things are seen now", y.fit(), 4);
+        y.mark(1, true);
+        CHECK.due("what was seen then", y.fit(), 2);
+        CHECK.due("and that was on top", y.see(1, 0, false) && y.fit() == 0, true);
     }
 
     private static void counts() {
