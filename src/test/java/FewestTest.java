@@ -197,5 +197,8 @@ public final class FewestTest {
         Check.wish(bars, "a up b down");
         CHECK.due("but not back", bars.far(), -1);
         CHECK.due("by none", bars.toward(), -1);
+        HotCakes shut = Check.with(Check.stack("browned", 1, 2) + "bars brown;");
+        Check.wish(shut, "a down b down");
+        CHECK.due("as wished, and one turn away it never can be", shut.toward(), -1);
     }
 }

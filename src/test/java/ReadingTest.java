@@ -180,6 +180,10 @@ public final class ReadingTest {
         CHECK.due("without bars it is not", Check.griddle(x, "cake a plain wide 3 up;") == 0 && x.can(1), true);
         CHECK.due("laws ahead of cakes", Check.griddle(x, "costs weight;bars 0;cake a plain wide 3 up;"), 0);
         CHECK.due("costs", x.cost(1), 3);
+        CHECK.due("names of the same letters are two", Check.griddle(x,
+            "cake ab plain wide 3 up; cake ba heavy wide 1 up; cake pu plain wide 2 up; cake aaaaaaaa plain wide 4 up;"
+            + "cake aaaaaaab plain wide 5 up;"), 0);
+        CHECK.due("and each is known", Check.wish(x, "aaaaaaab up aaaaaaaa up pu up ba up ab up"), 0);
         CHECK.due("facts are names", Check.griddle(x, "cake take plain wide 3 up; cake left heavy wide 1 up; bars take;"), 0);
     }
 
