@@ -1873,7 +1873,6 @@ public final class HotCakes {
         }
 
         void begin(int told) {
-            laid = true;
             stack = told;
             turns = 0;
             spent = 0;
