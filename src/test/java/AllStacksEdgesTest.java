@@ -36,7 +36,8 @@ public final class AllStacksEdgesTest {
         CHECK.due("one", Check.with(Check.stack("browned", -1)).never(), 0);
         CHECK.due("one, barred: all but the served one", Check.with(Check.stack("browned", -1) + "bars 1;").never(), 1);
         CHECK.due("five", Check.with(Check.stack("browned", 5, 4, 3, 2, 1)).never(), 0);
-        CHECK.due("five, barred: all but the served one", Check.with(Check.stack("browned", 5, 4, 3, 2, 1) + "bars 1;").never(), 3839);
+        CHECK.due("five, barred: all but the served one",
+            Check.with(Check.stack("browned", 5, 4, 3, 2, 1) + "bars 1;").never(), 3839);
         CHECK.due("half of them", two(1, 2, ONE_WAY).never(), 4);
         CHECK.due("wherever the stack is", two(2, 1, ONE_WAY).never(), 4);
         CHECK.due("from them, not to them", Check.with("cake a glazed wide 1 down; cake b plain wide 2 down;").never(), 2);
@@ -54,17 +55,19 @@ public final class AllStacksEdgesTest {
             CHECK.due("hard(" + what + ")", two(1, 2, "").hard(what), -1);
             CHECK.due("hard(" + what + ") of none", new HotCakes().hard(what), -1);
         }
-        CHECK.sentence("Terms 3, promise 24", "HARD: the most TURNS that any of the others needs at the least; how many need so many");
+        CHECK.sentence("Terms 3, promise 24",
+            "HARD: the most TURNS that any of the others needs at the least; how many need so many");
         CHECK.due("no cakes", new HotCakes().hard(0) * 10 + new HotCakes().hard(1), 1);
         CHECK.due("all barred: the served one", two(2, 1, "bars 1;").hard(0) * 10 + two(2, 1, "bars 1;").hard(1), 1);
         CHECK.due("two", two(2, 1, "").hard(0) * 10 + two(2, 1, "").hard(1), 41);
-        CHECK.due("one way: those that never can be do not count", two(2, 1, ONE_WAY).hard(0) * 10 + two(2, 1, ONE_WAY).hard(1), 21);
+        CHECK.due("one way: those that never can be do not count",
+            two(2, 1, ONE_WAY).hard(0) * 10 + two(2, 1, ONE_WAY).hard(1), 21);
         HotCakes three = Check.with(Check.stack("browned", 1, 2, 3));
         CHECK.due("three", three.hard(0) * 10 + three.hard(1), 62);
     }
 
     private static void spread() {
-        CHECK.sentence("promise 25", "NONE: others (SPREAD of a number (0 to 60))");
+        CHECK.sentence("Terms 3, promise 25", "NONE: others [...] SPREAD of a number (0 to 60)");
         for (int turns : new int[] {-1, -2, 61, 62, GREATEST, LEAST}) {
             CHECK.due("spread(" + turns + ")", two(1, 2, "").spread(turns), -1);
             CHECK.due("spread(" + turns + ") of none", new HotCakes().spread(turns), -1);
@@ -84,20 +87,24 @@ public final class AllStacksEdgesTest {
     /** Where 60 is not far enough. */
     private static void farther() {
         HotCakes x = Extremes.far61("costs 9;");
-        CHECK.sentence("promise 25", "SPREAD of a number (0 to 60), where some need more");
+        CHECK.sentence("Terms 3, promise 25, where some need more",
+            "SPREAD of a number (0 to 60): how many need just so many");
         CHECK.due("spread(60)", x.spread(60), 2);
         CHECK.due("spread(61)", x.spread(61), -1);
-        CHECK.sentence("promise 24", "HARD, where it is more than 60");
+        CHECK.sentence("Terms 3, promise 24, where it is more than 60",
+            "HARD: the most TURNS that any of the others needs at the least");
         CHECK.due("hard(0)", x.hard(0), 61);
         CHECK.due("hard(1)", x.hard(1), 1);
         CHECK.due("never", x.never(), 1928);
-        CHECK.sentence("promise 26", "DEAR, where it is 61 TURNS of 9");
+        CHECK.sentence("Terms 3, promise 26, where it is 61 turns of 9",
+            "DEAR: the most that any of those that can be SERVED costs at the least");
         CHECK.due("dear()", x.dear(), 549);
-        CHECK.sentence("promise 31", "REACHED by so many (0 to 60), where there are more");
+        CHECK.sentence("Terms 3, promise 31, where there are more", "by so many (0 to 60) TURNS, or fewer");
         CHECK.due("reached(58)", x.reached(58), 3810);
         CHECK.due("reached(60)", x.reached(60), 3821);
         CHECK.due("reached(61)", x.reached(61), -1);
-        CHECK.sentence("promise 27", "RIM, where it is more than 60");
+        CHECK.sentence("Terms 3, promise 27, where it is more than 60",
+            "RIM: by how many, at the least, one comes to the farthest");
         CHECK.due("rim()", x.rim(), 64);
     }
 
@@ -109,16 +116,17 @@ public final class AllStacksEdgesTest {
         CHECK.due("all barred", two(2, 1, "costs 9; bars 1;").dear(), 0);
         CHECK.due("one way", two(2, 1, "costs 9;" + ONE_WAY).dear(), 18);
         CHECK.due("wherever the stack is", two(1, 2, "costs 3;").dear(), 12);
-        CHECK.due("not for the fewest turns", Check.with(Check.stack("plain", 1, 2, 3) + "costs 1 + 8 * (weight = 3);").dear(), 5);
+        CHECK.due("not for the fewest turns",
+            Check.with(Check.stack("plain", 1, 2, 3) + "costs 1 + 8 * (weight = 3);").dear(), 5);
     }
 
     private static void reached() {
-        CHECK.sentence("promise 31", "NONE: others (REACHED by so many (0 to 60))");
+        CHECK.sentence("Terms 3, promise 31", "NONE: others [...] by so many (0 to 60) TURNS");
         for (int turns : new int[] {-1, -2, 61, 62, GREATEST, LEAST}) {
             CHECK.due("reached(" + turns + ")", two(1, 2, "").reached(turns), -1);
             CHECK.due("reached(" + turns + ") of none", new HotCakes().reached(turns), -1);
         }
-        CHECK.sentence("Terms 3, promise 31", "by so many TURNS, or fewer (itself, too)");
+        CHECK.sentence("Terms 3, promise 31", "by so many (0 to 60) TURNS, or fewer (itself, too)");
         CHECK.due("no cakes, 0", new HotCakes().reached(0), 1);
         CHECK.due("no cakes, 60", new HotCakes().reached(60), 1);
         CHECK.due("all barred", two(1, 2, "bars 1;").reached(60), 1);
@@ -139,7 +147,8 @@ public final class AllStacksEdgesTest {
     }
 
     private static void rim() {
-        CHECK.sentence("Terms 3, promise 27", "RIM: by how many, at the least, one comes to the farthest that can be come to");
+        CHECK.sentence("Terms 3, promise 27",
+            "RIM: by how many, at the least, one comes to the farthest that can be come to");
         CHECK.due("no cakes", new HotCakes().rim(), 0);
         CHECK.due("one without a side", Check.with(Check.stack("plain", 1)).rim(), 0);
         CHECK.due("one", Check.with(Check.stack("browned", 1)).rim(), 1);
@@ -185,7 +194,8 @@ public final class AllStacksEdgesTest {
         HotCakes w = Check.with(Check.stack("browned", 5, 1, 3));
         w.turn(2);
         CHECK.due("the next but one order, with two up on top", w.nth(), 16 + 6);
-        HotCakes mixed = Check.with("cake a plain wide 1 up; cake b glazed wide 2 up; cake c heavy wide 3 up; cake d browned wide 4 down;");
+        HotCakes mixed = Check.with("cake a plain wide 1 up; cake b glazed wide 2 up; cake c heavy wide 3 up;"
+            + "cake d browned wide 4 down;");
         CHECK.due("those without a side are passed over", mixed.nth(), 2);
         mixed.turn(1);
         mixed.turn(4);
@@ -194,7 +204,7 @@ public final class AllStacksEdgesTest {
     }
 
     private static void pairs() {
-        CHECK.sentence("Terms 3, promise 30", "PAIRS of CAKES of which the less wide one lies below the other one");
+        CHECK.sentence("Terms 3, promise 30", "PAIRS: pairs of CAKES of which the less wide one lies below the other one");
         CHECK.due("no cakes", new HotCakes().pairs(), 0);
         CHECK.due("one", Check.with(Check.stack("browned", -1)).pairs(), 0);
         CHECK.due("none", Check.with(Check.stack("browned", -1, -2, -3, -4, -5)).pairs(), 0);

@@ -90,7 +90,8 @@ public final class FewestEdgesTest {
             CHECK.due("one way, " + i, two(ring[i][0], ring[i][1], ONE_WAY).least(), oneWay[i]);
         }
         CHECK.due("all barred", two(2, 1, "bars 1;").least(), -1);
-        CHECK.due("the widest is glazed, on top", Check.with("cake a glazed wide 9 down; cake b glazed wide 1 down;").least(), -1);
+        CHECK.due("the widest is glazed, on top",
+            Check.with("cake a glazed wide 9 down; cake b glazed wide 1 down;").least(), -1);
     }
 
     private static void row() {
@@ -122,7 +123,8 @@ public final class FewestEdgesTest {
         rowIs(three(1, 3, 2, "bars weight = 5;"), 2, 3, 2);
         // 1 is ahead of 2, and turns none of them, but with it a row is longer
         rowIs(three(2, 3, 1, ""), 2, 3);
-        CHECK.sentence("Terms 3, promises 14 and 15", "LEAST and ROW, where it is far");
+        CHECK.sentence("Terms 3, promises 14 and 15, where it is far",
+            "LEAST: the fewest TURNS [...] ROW: of all such rows of TURNS the first one");
         HotCakes far = Extremes.ways31627051008();
         CHECK.due("least()", far.least(), 154);
         int[] rest = new int[154];
@@ -158,7 +160,7 @@ public final class FewestEdgesTest {
         CHECK.sentence("promise 16", "(0: never)");
         CHECK.due("all barred", two(2, 1, "bars 1;").ways(), 0);
         CHECK.due("one way", two(1, -2, ONE_WAY).ways(), 0);
-        CHECK.sentence("Terms 3, promise 16", "WAYS are asked again: each time the same");
+        CHECK.sentence("Terms 3, promise 16, asked again", "WAYS: how many such rows there are");
         HotCakes x = three(1, 3, 2, "");
         CHECK.due("first", x.ways(), 2);
         CHECK.due("behind other questions", x.chance(6, true) > 0 && x.wins(0) >= 0 && x.cheap() > 0 && x.ways() == 2, true);
@@ -205,14 +207,16 @@ public final class FewestEdgesTest {
         billIs(three(3, 1, 2, "costs 1 + (take = 2 and weight = 3);"), 3, 3, 2);
         billIs(three(3, 1, 2, "costs 1 + 2 * (take = 2 and weight = 3);"), 4, 2, 3, 2, 3);
         billIs(three(3, 1, 2, "costs 1 + 3 * (take = 2 and weight = 3);"), 4, 2, 3, 2, 3);
-        CHECK.sentence("Terms 3", "CHEAP, BILL, where it is far");
+        CHECK.sentence("Terms 3, promises 17 and 18, where it is far",
+            "CHEAP: the least [...] BILL: of all such rows the first one");
         HotCakes far = Extremes.far61("costs 9;");
         CHECK.due("61 turns of 9", far.cheap(), 549);
         for (int i = 0; i < 61; i++) {
             CHECK.due("the fewest are the cheapest, " + i, far.bill(i), far.row(i));
         }
         noBill(far, 61);
-        CHECK.sentence("Terms 3", "CHEAP, BILL: not as few as can be, where more cost less");
+        CHECK.sentence("Terms 3, promises 17 and 18, where more turns cost less",
+            "CHEAP: the least that TURNS by which it is SERVED cost, together");
         // three turns the short way, 1 9 1; five the other way, each 1
         billIs(two(2, 1, "costs 1 + 8 * (take = 2 and brown = 1 and weight = 3);"), 11, 1, 2, 1);
         HotCakes x = Check.with(Check.stack("browned", 4, -1, -3) + "costs take * take;");
@@ -261,7 +265,7 @@ public final class FewestEdgesTest {
         CHECK.due("served", two(1, 2, "").needed(), 0);
         CHECK.due("served, all barred", two(1, 2, "bars 1;").needed(), 0);
         CHECK.due("either way round", Check.with(Check.stack("browned", 1, 3, 2, 4)).needed() & 1, 0);
-        CHECK.sentence("promise 20", "as bits, TURN 1: bit 0");
+        CHECK.sentence("Terms 3, promise 20", "(bits, TURN 1: bit 0)");
         CHECK.due("1", two(-1, 2, "").needed(), 1);
         CHECK.due("2", two(-2, -1, "").needed(), 2);
         CHECK.due("1 and 2", two(-1, -2, "").needed(), 3);
@@ -289,8 +293,8 @@ public final class FewestEdgesTest {
         CHECK.sentence("promise 21", "NONE: never");
         CHECK.due("all barred", wishing(two(1, 2, "bars 1;"), "a up b down").far(), -1);
         // 1 2 comes to 2u 1u, to 2 1u, to 1 2u, and no further
-        String[] wishes = {"a down b down", "b up a up", "b down a up", "a down b up", "a up b up", "b down a down", "b up a down",
-            "a up b down"};
+        String[] wishes = {"a down b down", "b up a up", "b down a up", "a down b up", "a up b up", "b down a down",
+            "b up a down", "a up b down"};
         int[] far = {0, 1, 2, 3, -1, -1, -1, -1};
         for (int i = 0; i < 8; i++) {
             CHECK.due("one way, to " + wishes[i], wishing(two(1, 2, ONE_WAY), wishes[i]).far(), far[i]);
@@ -342,7 +346,7 @@ public final class FewestEdgesTest {
 
     /** All of it is asked of the stack as it is, and of the griddle that is, whatever was asked ahead. */
     private static void asItIs() {
-        CHECK.sentence("Terms 3", "by which the STACK is SERVED: as it is, on the GRIDDLE that is");
+        CHECK.sentence("Terms 3, promises 14 to 22, as it is, on the griddle that is", "by which the STACK is SERVED");
         HotCakes x = three(1, 3, 2, "costs 3;");
         wishing(x, "c up a up b up");
         CHECK.due("all of it", x.least() * 1000 + x.cheap() * 10 + x.far(), 3092);

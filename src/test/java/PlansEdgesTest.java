@@ -42,11 +42,13 @@ public final class PlansEdgesTest {
         CHECK.due("of no cakes", new HotCakes().ring(1, 1), -1);
         CHECK.due("of no cakes, 0", new HotCakes().ring(0, 0), -1);
         CHECK.due("6 of five", Check.with(FIVE).ring(5, 6), -1);
-        CHECK.sentence("Terms 3, promise 29", "RING of two numbers: [...] behind how many TURNS (2, 4, .. 120) it is as it is now");
+        CHECK.sentence("Terms 3, promise 29",
+            "RING of two numbers: [...] behind how many TURNS (2, 4, .. 120) it is as it is now");
         int[][] ring = {{2, 8, 8, 8, 8}, {8, 2, 12, 8, 8}, {8, 12, 2, 16, 24}, {8, 8, 16, 2, 20}, {8, 8, 24, 20, 2}};
         for (int first = 1; first <= 5; first++) {
             for (int other = 1; other <= 5; other++) {
-                CHECK.due("ring(" + first + ", " + other + ")", Check.with(FIVE).ring(first, other), ring[first - 1][other - 1]);
+                CHECK.due("ring(" + first + ", " + other + ")", Check.with(FIVE).ring(first, other),
+                    ring[first - 1][other - 1]);
             }
         }
         CHECK.due("one alone", Check.with(Check.stack("browned", 1)).ring(1, 1), 2);
@@ -86,8 +88,8 @@ public final class PlansEdgesTest {
         CHECK.due("an empty plan", planned(TWO, "").again(), 1);
         CHECK.due("all barred", planned(TWO + "bars 1;", "").again(), 1);
         CHECK.sentence("Terms 3, promise 34", "behind how many times (1 to 60) the STACK is as it is now");
-        String[] plans = {"turn 1; turn 1;", "turn 1;", "turn 1; turn 2; turn 3;", "turn 1; turn 2;", "turn 1; turn 4; turn 5;",
-            "turn 2; turn 3;", "turn 3; turn 4;", "turn 4; turn 5;", "turn 3; turn 5;"};
+        String[] plans = {"turn 1; turn 1;", "turn 1;", "turn 1; turn 2; turn 3;", "turn 1; turn 2;",
+            "turn 1; turn 4; turn 5;", "turn 2; turn 3;", "turn 3; turn 4;", "turn 4; turn 5;", "turn 3; turn 5;"};
         int[] times = {1, 2, 3, 4, 5, 6, 8, 10, 12};
         for (int i = 0; i < plans.length; i++) {
             CHECK.due("again() of '" + plans[i] + "'", planned(FIVE, plans[i]).again(), times[i]);
@@ -108,8 +110,10 @@ public final class PlansEdgesTest {
         CHECK.due("the last line, the second time", planned(TWO + ONE_WAY, "turn 2; turn 1;").again(), -1);
         CHECK.due("all", planned(TWO + "bars 1;", "turn 1;").again(), -1);
         CHECK.due("lines that can't be are not left out", planned(TWO + ONE_WAY, "turn 1;").again(), -1);
-        CHECK.due("a glazed one", planned("cake a glazed wide 1 down; cake b plain wide 2 down;", "turn 2; turn 2;").again(), -1);
-        CHECK.due("a glazed one, the second time", planned("cake a glazed wide 1 down; cake b plain wide 2 down;", "turn 2; turn 1;").again(), -1);
+        CHECK.due("a glazed one",
+            planned("cake a glazed wide 1 down; cake b plain wide 2 down;", "turn 2; turn 2;").again(), -1);
+        CHECK.due("a glazed one, the second time",
+            planned("cake a glazed wide 1 down; cake b plain wide 2 down;", "turn 2; turn 1;").again(), -1);
         HotCakes x = planned(TWO + ONE_WAY, "turn 1; turn 2;");
         CHECK.due("as told it can't be", x.again(), -1);
         HotCakes y = planned(Check.stack("browned", -1, 2) + ONE_WAY, "turn 2; turn 2;");
@@ -163,7 +167,9 @@ public final class PlansEdgesTest {
         CHECK.due("none was turned", x.count(2), 1);
         CHECK.sentence("Terms 3, promise 36", "lines that can't be left out");
         CHECK.due("all lines", planned(TWO + "bars 1;", "turn 1; turn 2;").ends(), true);
-        CHECK.due("the first one", planned(Check.stack("browned", -2, 1) + "bars take = 1 and weight = 2;", "turn 1; turn 2; turn 1;").ends(), true);
+        CHECK.due("the first one",
+            planned(Check.stack("browned", -2, 1) + "bars take = 1 and weight = 2;", "turn 1; turn 2; turn 1;").ends(),
+            true);
         CHECK.due("the last one", planned(Check.stack("browned", -1, 2) + ONE_WAY, "turn 1; turn 1;").ends(), true);
     }
 
@@ -192,12 +198,12 @@ public final class PlansEdgesTest {
         gameIs(Check.stack("plain", 1), 0, 0, -1);
         gameIs(TWO + "bars 1;", 0, 0, -1);
         gameIs(TWO + "bars brown;", 0, 0, -1);
-        CHECK.sentence("Terms 3, promises 37 and 38", "who can't has lost [...] NONE: there is none");
+        CHECK.sentence("Terms 3, promises 37 and 38", "who can't has lost [...] NONE: it is SERVED, there is none");
         gameIs(Check.stack("browned", 2, 1) + "bars 1;", 0, 0, -1);
         gameIs(Check.stack("browned", -1) + "bars brown;", 0, 0, -1);
         gameIs(Check.stack("browned", 1, 3, 2) + "bars brown = 0;", 0, 0, -1);
         gameIs("cake a glazed wide 2 down; cake b glazed wide 1 down; bars take = 1;", 0, 0, -1);
-        CHECK.sentence("Terms 3, promises 37 and 38", "who can't has lost: the one whose turn leaves none has won");
+        CHECK.sentence("Terms 3, promises 37 and 38, of the other one", "who can't has lost");
         gameIs(Check.stack("browned", 2, 1) + "bars take = 2 or brown;", 1, 1, 1);
         CHECK.sentence("Terms 3, promise 37", "2 it never ends [...] (NONE: it never ends)");
         gameIs(Check.stack("plain", 2, 1) + "bars take = 2;", 2, -1, 1);
@@ -220,7 +226,8 @@ public final class PlansEdgesTest {
         // 1 loses in 4, 2 in 2; then 1 in 6, 3 in 2; then 1 in 2, 3 in 8
         gameIs("cake a browned wide 2 down; cake b browned wide 3 down; cake c browned wide 1 up; bars brown = 1;", 0, 4, 1);
         gameIs("cake a glazed wide 3 down; cake b browned wide 1 up; cake c browned wide 2 up; bars brown = 1;", 0, 6, 1);
-        gameIs(Check.stack("browned", -4, -5, -3, -2) + "bars brown = 1 or weight + brown = 4 or take + brown = 4;", 0, 8, 3);
+        gameIs(Check.stack("browned", -4, -5, -3, -2) + "bars brown = 1 or weight + brown = 4 or take + brown = 4;",
+            0, 8, 3);
         gameIs(Check.stack("browned", 1, -2, 3) + "bars brown = 1;", 0, 2, 1);
         CHECK.sentence("Terms 3", "in how many TURNS, the winner's as few");
         // 2 wins in 5, 3 in 1; then 1 in 5, 2 in 3
@@ -228,7 +235,8 @@ public final class PlansEdgesTest {
         gameIs("cake a glazed wide 3 down; cake b browned wide 2 down; cake c browned wide 1 up; bars brown = 1;", 1, 3, 2);
         CHECK.sentence("Terms 3, promise 38", "HIS: the TURN that the first one should make so; of equal ones the least");
         gameIs(Check.stack("browned", -2, -1, 3) + "bars brown = 1;", 1, 1, 2);
-        gameIs("cake a browned wide 1 down; cake b plain wide 2 down; cake c browned wide 3 up; bars weight = 2 or brown = 1;", 1, 3, 1);
+        gameIs("cake a browned wide 1 down; cake b plain wide 2 down; cake c browned wide 3 up;"
+            + "bars weight = 2 or brown = 1;", 1, 3, 1);
         gameIs(Check.stack("browned", -1, 2, 3) + "bars weight = 1 or brown = 0;", 0, 2, 2);
         gameIs(Check.stack("browned", 1, 2, -3), 2, -1, 1);
     }

@@ -90,7 +90,7 @@ public final class ReadingEdgesTest {
         CHECK.due("it is there", x.plan(), 1 + 16 * 999);
         CHECK.due("just 1,000 at once", Check.feed(x, " ".repeat(994) + "turn1;"), 1000);
         CHECK.due("all of them are read", x.plan() * 10 + x.count(5), 1);
-        CHECK.sentence("promise 2", "what is beyond 1,000, [is] left out");
+        CHECK.sentence("promise 2", "what is beyond 1,000, are left out");
         CHECK.due("1,001", Check.feed(x, " ".repeat(995) + "turn1;"), 1000);
         CHECK.due("the last one is not read", x.plan(), 1 + 16 * 1000);
         CHECK.due("984", Check.feed(x, " ".repeat(984)), 984);
@@ -115,7 +115,8 @@ public final class ReadingEdgesTest {
             for (int sign = 0; sign < 256; sign++) {
                 long bytes = (long) sign << (where == 0 ? 56 : where == 1 ? 24 : 0);
                 signs += sign == 10 || sign > 31 && sign < 127 ? 1 : 0;
-                CHECK.due("sign " + sign, x.feed(where == 0 ? bytes : 0, where == 1 ? bytes : 0, where == 2 ? bytes : 0), signs);
+                CHECK.due("sign " + sign, x.feed(where == 0 ? bytes : 0, where == 1 ? bytes : 0, where == 2 ? bytes : 0),
+                    signs);
             }
         }
         CHECK.due("what is left out takes no room", new HotCakes().feed(-1, -1, 0xff41ffL), 1);
@@ -326,7 +327,8 @@ public final class ReadingEdgesTest {
     }
 
     private static void names() {
-        CHECK.sentence("Terms 1", "A NAME is another WORD than cake, wide, up, down, bars, costs, turn, the KINDS, not, and, or");
+        CHECK.sentence("Terms 1",
+            "A NAME is another WORD than cake, wide, up, down, bars, costs, turn, the KINDS, not, and, or");
         for (String word : RESERVED) {
             griddleIs("cake " + word + " plain wide 1 up;", 1, 5);
             wishIs(word + " up", 1, 0);
@@ -500,7 +502,7 @@ public final class ReadingEdgesTest {
     }
 
     private static void depths() {
-        CHECK.sentence("Terms 1", "no PART lies within 5 of not and ( ): 4 are none too many");
+        CHECK.sentence("Terms 1, within 4", "no PART lies within 5 of not and ( )");
         lawIs("((((7))))", 1, 7);
         lawIs("not not not not 7", 1, 1);
         lawIs("(not(not take))", 1, 1);

@@ -56,7 +56,7 @@ public final class SeenEdgesTest {
                 CHECK.due("both", y.fit(), 0);
             }
         }
-        CHECK.sentence("Terms 3", "that an unknown one of ALL STACKS has: not the stack that is");
+        CHECK.sentence("Terms 3, not the stack that is", "an unknown one of ALL STACKS");
         HotCakes x = three();
         CHECK.due("what is not so", x.see(0, 2, true), true);
         CHECK.due("fits others", x.fit(), 16);
@@ -90,7 +90,7 @@ public final class SeenEdgesTest {
     }
 
     private static void eight() {
-        CHECK.sentence("Terms 3, promises 39 and 40", "8 at most [...] false: 8 there are");
+        CHECK.sentence("Terms 3, promises 39 and 40", "8 at most [...] false: others, 8 there are");
         HotCakes x = three();
         for (int i = 0; i < 8; i++) {
             CHECK.due("seen " + i, i % 2 == 0 ? x.see(0, 0, true) : x.lies(0, true), true);
@@ -116,7 +116,8 @@ public final class SeenEdgesTest {
         CHECK.sentence("Terms 3, promise 41", "FIT: how many there are by which all SEEN is so");
         CHECK.due("no cakes: the one there is", new HotCakes().fit(), 1);
         CHECK.due("nothing seen: all", Check.with(Check.stack("browned", 1, 2, 3, 4, 5)).fit(), 3840);
-        CHECK.due("those that can't be come to, too", Check.with(Check.stack("browned", 1, 2, 3, 4, 5) + "bars 1;").fit(), 3840);
+        CHECK.due("those that can't be come to, too", Check.with(Check.stack("browned", 1, 2, 3, 4, 5) + "bars 1;").fit(),
+            3840);
         HotCakes x = three();
         x.see(0, 2, true);
         x.see(1, 0, true);
@@ -185,7 +186,7 @@ public final class SeenEdgesTest {
     // ---- chance ----
 
     private static void chanceRefused() {
-        CHECK.sentence("promise 43", "NONE: others (so many (1 to 6) times)");
+        CHECK.sentence("Terms 3, promise 43", "NONE: others [...] so many (1 to 6) times");
         for (int times : new int[] {0, -1, 7, 8, GREATEST, LEAST}) {
             CHECK.due("chance(" + times + ", false)", three().chance(times, false), -1);
             CHECK.due("chance(" + times + ", true)", three().chance(times, true), -1);
@@ -197,12 +198,14 @@ public final class SeenEdgesTest {
     }
 
     private static void chance() {
-        CHECK.sentence("Terms 3, promise 43", "each of so many (1 to 6) times a number of 1 to all CAKES, each alike, is TURNED");
+        CHECK.sentence("Terms 3, promise 43",
+            "each of so many (1 to 6) times a number of 1 to all CAKES, each alike, is TURNED");
         int[] back = {200000, 80000, 80000, 51200, 42560, 32000};
         int[] none = {0, 0, 0, 0, 0, 64};
         String five = Check.stack("browned", -3, 1, 5, -2, 4);
         for (int times = 1; times <= 6; times++) {
-            CHECK.due("plain 5 4 3 2 1, " + times, Check.with(Check.stack("plain", 5, 4, 3, 2, 1)).chance(times, false), back[times - 1]);
+            CHECK.due("plain 5 4 3 2 1, " + times, Check.with(Check.stack("plain", 5, 4, 3, 2, 1)).chance(times, false),
+                back[times - 1]);
             CHECK.due("browned, far away, " + times, Check.with(five).chance(times, false), none[times - 1]);
         }
         CHECK.due("one: each number is 1", Check.with(Check.stack("browned", -1)).chance(1, false), 1000000);
@@ -212,7 +215,8 @@ public final class SeenEdgesTest {
         int[] barred = {200000, 8000, 72000, 7680, 31040};
         for (int times = 2; times <= 6; times++) {
             CHECK.due("some can't be, " + times,
-                Check.with(Check.stack("browned", 1, 2, 3, 4, 5) + "bars take = 2 and brown = 1;").chance(times, false), barred[times - 2]);
+                Check.with(Check.stack("browned", 1, 2, 3, 4, 5) + "bars take = 2 and brown = 1;").chance(times, false),
+                barred[times - 2]);
         }
         CHECK.sentence("Terms 3, promise 43", "that it is SERVED behind these, in millionths, cut");
         CHECK.due("a third", Check.with(Check.stack("plain", 1, 2, 3)).chance(1, false), 333333);
@@ -229,8 +233,10 @@ public final class SeenEdgesTest {
         int[] back = {200000, 240000, 272000, 288000, 299840, 307968};
         int[] none = {0, 0, 0, 0, 0, 64};
         for (int times = 1; times <= 6; times++) {
-            CHECK.due("plain 5 4 3 2 1, " + times, Check.with(Check.stack("plain", 5, 4, 3, 2, 1)).chance(times, true), back[times - 1]);
-            CHECK.due("far away, " + times, Check.with(Check.stack("browned", -3, 1, 5, -2, 4)).chance(times, true), none[times - 1]);
+            CHECK.due("plain 5 4 3 2 1, " + times, Check.with(Check.stack("plain", 5, 4, 3, 2, 1)).chance(times, true),
+                back[times - 1]);
+            CHECK.due("far away, " + times, Check.with(Check.stack("browned", -3, 1, 5, -2, 4)).chance(times, true),
+                none[times - 1]);
             CHECK.due("behind 0, " + times, Check.with(Check.stack("browned", 1, 2)).chance(times, true), 1000000);
         }
         CHECK.due("behind 1 of 2", Check.with(Check.stack("browned", -1)).chance(2, true), 1000000);
@@ -275,9 +281,10 @@ public final class SeenEdgesTest {
         for (int i = 0; i < 4; i++) {
             CHECK.due("all of them, the least first", rests(x, 0, 0, 0, i), i);
         }
-        CHECK.sentence("promise 44", "with cakes and without");
+        CHECK.sentence("promise 44, with cakes", "what NONE: how many; i: the i-th");
         CHECK.due("the same", rests(three(), 2, 5, 1, -1) * 10 + rests(three(), 2, 5, 1, 1), 22);
-        CHECK.sentence("Terms 3", "SLICE: so much (0 to 9)");
+        CHECK.sentence("Terms 3, promise 44",
+            "each loses so much (0 to 9); one turns: he gets so much (0 to 9), the other one so much (0 to 9)");
         CHECK.due("the least", rests(x, 0, 0, 0, -1), 4);
         CHECK.due("the greatest", rests(x, 9, 9, 9, -1), 2);
         CHECK.due("no loss", rests(x, 0, 9, 9, -1), 2);
@@ -299,12 +306,14 @@ public final class SeenEdgesTest {
                 int a = both / 2;
                 int b = both % 2;
                 if (first[1 - a][b] <= first[a][b] && other[a][1 - b] <= other[a][b]) {
-                    CHECK.due("rests(" + lose + ", " + turns + ", " + waits + ", " + found + ")", rests(x, lose, turns, waits, found), both);
+                    CHECK.due("rests(" + lose + ", " + turns + ", " + waits + ", " + found + ")",
+                        rests(x, lose, turns, waits, found), both);
                     found++;
                 }
             }
             CHECK.due("rests(" + lose + ", " + turns + ", " + waits + ", -1)", rests(x, lose, turns, waits, -1), found);
-            CHECK.due("rests(" + lose + ", " + turns + ", " + waits + ", " + found + ")", rests(x, lose, turns, waits, found), -99);
+            CHECK.due("rests(" + lose + ", " + turns + ", " + waits + ", " + found + ")",
+                rests(x, lose, turns, waits, found), -99);
         }
     }
 
@@ -317,7 +326,7 @@ public final class SeenEdgesTest {
     }
 
     private static void morningsRefused() {
-        CHECK.sentence("promise 45", "-2: others (by a SEED (0 to 9999), of so many (1 to 99) TURNS)");
+        CHECK.sentence("Terms 3, promise 45", "-2: others [...] by a SEED (0 to 9999) [...] of so many (1 to 99) TURNS");
         for (HotCakes x : new HotCakes[] {new HotCakes(), three()}) {
             for (int what = 0; what < 3; what++) {
                 for (int seed : new int[] {-1, -2, 10000, 10001, GREATEST, LEAST}) {
@@ -334,23 +343,26 @@ public final class SeenEdgesTest {
         CHECK.sentence("Terms 3, promise 45", "each, if there are CAKES");
         morningsAre(new HotCakes(), 0, 1, 0, 0, 0);
         morningsAre(new HotCakes(), 9999, 99, 0, 0, 0);
-        CHECK.sentence("Terms 3, promise 45", "if there are CAKES: one is enough");
+        CHECK.sentence("Terms 3, promise 45, of one cake", "each, if there are CAKES");
         morningsAre(Check.with(Check.stack("browned", -1) + "costs 3;"), 1, 99, 99, 297, 1);
         morningsAre(Check.with(Check.stack("plain", 1) + "costs 3;"), 1, 99, 99, 297, 0);
     }
 
     private static void mornings() {
         String five = Check.stack("browned", -3, 1, 5, -2, 4);
-        CHECK.sentence("Terms 3, promise 45", "a DRAW below CAKES and 1 is TURNED, if it can be: how many could be; what these cost");
+        CHECK.sentence("Terms 3, promise 45",
+            "a DRAW below CAKES and 1 is TURNED, if it can be: how many could be; what these cost");
         HotCakes x = Check.with(five + "bars take = 2 and brown = 1; costs take + brown;");
-        int[][] want = {{0, 1, 1, 2}, {0, 2, 2, 7}, {0, 50, 43, 191}, {0, 98, 84, 382}, {0, 99, 85, 386}, {1, 1, 1, 6}, {1, 2, 2, 12},
+        int[][] want = {{0, 1, 1, 2}, {0, 2, 2, 7}, {0, 50, 43, 191}, {0, 98, 84, 382}, {0, 99, 85, 386}, {1, 1, 1, 6},
+            {1, 2, 2, 12},
             {1, 99, 84, 406}, {9999, 1, 0, 0}, {9999, 2, 1, 6}, {9999, 50, 44, 203}, {9999, 99, 91, 428}, {4321, 1, 0, 0},
             {4321, 2, 1, 4}, {4321, 98, 88, 426}, {4321, 99, 88, 426}};
         for (int[] each : want) {
             morningsAre(x, each[0], each[1], each[2], each[3], -1);
         }
         CHECK.sentence("Terms 3, promise 45", "from now on (all is as ahead then)");
-        CHECK.due("it is as it was", x.count(2) * 10000 + x.count(3) * 1000 + x.count(8) * 100 + x.there(0) * 10 + x.cake(0, 3), 1);
+        CHECK.due("it is as it was",
+            x.count(2) * 10000 + x.count(3) * 1000 + x.count(8) * 100 + x.there(0) * 10 + x.cake(0, 3), 1);
         x.turn(1);
         CHECK.due("from the stack as it is", x.mornings(0, 1, 1), 1);
         CHECK.sentence("Terms 3, promise 45", "behind how many draws it was SERVED for the first time");
@@ -366,14 +378,16 @@ public final class SeenEdgesTest {
         CHECK.sentence("Terms 3, promise 45", "(0: now)");
         CHECK.due("served", Check.with(Check.stack("browned", 1, 2)).mornings(1, 1, 2), 0);
         CHECK.due("and later on, too", Check.with(Check.stack("plain", 1)).mornings(1, 99, 2), 0);
-        CHECK.sentence("Terms 3, promise 45", "behind how many draws: one that can't be is one, too");
+        CHECK.sentence("Terms 3, promise 45, some of which can't be",
+            "behind how many draws it was SERVED for the first time");
         morningsAre(Check.with(Check.stack("plain", 2, 1, 3) + "bars take = 3;"), 1, 6, 4, 4, 2);
     }
 
     private static void draws() {
-        CHECK.sentence("Terms 3", "A DRAW below m: g becomes (g * 1103515245 + 12345) modulo 2147483648 (g is the SEED at first); it is"
+        CHECK.sentence("Terms 3",
+            "A DRAW below m: g becomes (g * 1103515245 + 12345) modulo 2147483648 (g is the SEED at first); it is"
             + " g / 65536, cut, modulo m");
-        // by 0: 0 21468 9988 22117 3498 16927; by 1: 16838 5758 10113 17515 31051 5627; by 9999: 4241 233 22049 17954 28191 15727
+        // each the seed, then what is drawn by it ahead of the modulo
         int[][] draws = {{0, 0, 21468, 9988, 22117, 3498, 16927}, {1, 16838, 5758, 10113, 17515, 31051, 5627},
             {7, 19564, 9806, 10868, 22674, 32531, 3365}, {9999, 4241, 233, 22049, 17954, 28191, 15727}};
         for (int cakes = 1; cakes <= 5; cakes++) {
@@ -382,7 +396,8 @@ public final class SeenEdgesTest {
                 int cost = 0;
                 for (int i = 1; i < each.length; i++) {
                     cost += each[i] % cakes + 1;
-                    CHECK.due("seed " + each[0] + ", " + cakes + " cakes, " + i + " draws", Check.with(text + "costs take;").mornings(each[0], i, 1), cost);
+                    CHECK.due("seed " + each[0] + ", " + cakes + " cakes, " + i + " draws",
+                        Check.with(text + "costs take;").mornings(each[0], i, 1), cost);
                 }
             }
         }

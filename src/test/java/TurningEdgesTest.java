@@ -430,7 +430,8 @@ public final class TurningEdgesTest {
         shapeIs("all is as it was then", y, "1u23");
         y.turn(3);
         CHECK.due("what is turned then can be", y.undo() && !y.undo(), true);
-        CHECK.sentence("promise 46", "the MARK holds nothing else");
+        CHECK.sentence("Terms 3, promise 46, and nothing else",
+            "hold the STACK, how many TURNS there were, what these cost, what is SEEN");
         Check.plan(y, "turn 1;");
         Check.wish(y, "a up b up c up");
         y.mark(0, true);
@@ -452,7 +453,8 @@ public final class TurningEdgesTest {
         CHECK.due("none", new HotCakes().count(0), 0);
         CHECK.due("one", Check.with("cake a plain wide 1 up;").count(0), 1);
         CHECK.due("five", Check.with(Check.stack("plain", 1, 2, 3, 4, 5)).count(0), 5);
-        CHECK.sentence("promise 47", "1: ALL STACKS (all orders of the CAKES, each that has a SIDE up or down)");
+        CHECK.sentence("Terms 3, promise 47",
+            "1: ALL STACKS [...] all orders of the CAKES, each that has a SIDE up or down");
         int[] orders = {1, 1, 2, 6, 24, 120};
         for (int cakes = 0; cakes <= 5; cakes++) {
             int[] wide = {5, 4, 3, 2, 1};
