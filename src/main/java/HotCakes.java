@@ -218,7 +218,8 @@ public final class HotCakes {
 
     public int bill(int i) {
         bills.learn();
-        if (i < 0) {
+        // each turn costs something, so no bill comes to a stack twice
+        if (i < 0 || i >= MOST_STACKS) {
             return NONE;
         }
         int stack = now.stack();
@@ -402,7 +403,7 @@ public final class HotCakes {
             all *= choices;
             stacks.spreadCounts(ever);
         }
-        return (int) (stacks.countOf(stacks.goal()) * 1000000L / all);
+        return all > 0 ? (int) (stacks.countOf(stacks.goal()) * 1000000L / all) : NONE;
     }
 
     public int rests(int lose, int turns, int waits, int what) throws NoSuchElementException {

@@ -64,6 +64,8 @@ public final class AllStacksEdgesTest {
             two(2, 1, ONE_WAY).hard(0) * 10 + two(2, 1, ONE_WAY).hard(1), 21);
         HotCakes three = Check.with(Check.stack("browned", 1, 2, 3));
         CHECK.due("three", three.hard(0) * 10 + three.hard(1), 62);
+        HotCakes told = Check.with(Check.stack("plain", 2, 1));
+        CHECK.due("the one as told, the first of all", told.hard(0) * 10 + told.hard(1), 11);
     }
 
     private static void spread() {
@@ -114,6 +116,7 @@ public final class AllStacksEdgesTest {
         CHECK.due("one", Check.with(Check.stack("browned", 1) + "costs 9;").dear(), 9);
         CHECK.due("one without a side", Check.with(Check.stack("plain", 1) + "costs 9;").dear(), 0);
         CHECK.due("all barred", two(2, 1, "costs 9; bars 1;").dear(), 0);
+        CHECK.due("the one as told, the first of all", Check.with(Check.stack("plain", 2, 1) + "costs 7;").dear(), 7);
         CHECK.due("one way", two(2, 1, "costs 9;" + ONE_WAY).dear(), 18);
         CHECK.due("wherever the stack is", two(1, 2, "costs 3;").dear(), 12);
         CHECK.due("not for the fewest turns",
@@ -154,6 +157,9 @@ public final class AllStacksEdgesTest {
         CHECK.due("one", Check.with(Check.stack("browned", 1)).rim(), 1);
         CHECK.due("all barred", two(1, 2, "bars 1;").rim(), 0);
         CHECK.due("half round", two(1, 2, "").rim(), 4);
+        HotCakes told = Check.with(Check.stack("plain", 2, 1));
+        told.turn(2);
+        CHECK.due("to the one as told, the first of all", told.rim(), 1);
         CHECK.due("from 1 2, one way", two(1, 2, ONE_WAY).rim(), 3);
         CHECK.due("from 2u 1, one way", two(-2, 1, ONE_WAY).rim(), 4);
         HotCakes x = two(1, 2, ONE_WAY);

@@ -21,6 +21,7 @@ public final class FewestEdgesTest {
         without();
         needed();
         far();
+        farByAnotherLaw();
         toward();
         asItIs();
         CHECK.end();
@@ -196,6 +197,8 @@ public final class FewestEdgesTest {
         noBill(two(1, 2, "costs 0;"), 0);
         noBill(two(1, 2, "bars brown;"), 0);
         CHECK.sentence("Terms 3, promise 18", "BILL: of all such rows the first one (by its TURNS");
+        CHECK.due("asked first", two(-1, 2, "costs 9;").bill(0), 1);
+        CHECK.due("asked first, the second turn", two(-2, 1, "").bill(1), 1);
         billIs(two(-1, 2, "costs 9;"), 9, 1);
         billIs(two(-1, -2, "costs 2;"), 8, 1, 2, 1, 2);
         billIs(three(1, 3, 2, ""), 3, 2, 3, 2);
@@ -311,6 +314,21 @@ public final class FewestEdgesTest {
         CHECK.due("come to", y.far(), 0);
         y.turn(1);
         CHECK.due("and gone from", y.far(), 1);
+    }
+
+    private static void farByAnotherLaw() {
+        CHECK.sentence("Terms 3, promises 21 and 22, by another law", "To the WISH: FAR: the fewest TURNS");
+        HotCakes x = wishing(two(1, 2, ""), "a up b down");
+        CHECK.due("by 1", x.far() * 10 + x.toward(), 11);
+        Check.griddle(x, Check.stack("browned", 1, 2) + "bars take = 1;");
+        wishing(x, "a up b down");
+        CHECK.due("the same wish, never", x.far() * 10 + x.toward(), -11);
+        Check.griddle(x, Check.stack("browned", 1, 2) + ONE_WAY);
+        wishing(x, "a up b down");
+        CHECK.due("one way, never", x.far() * 10 + x.toward(), -11);
+        Check.griddle(x, Check.stack("browned", 1, 2) + "costs 3;");
+        wishing(x, "a up b down");
+        CHECK.due("as ahead", x.far() * 10 + x.toward(), 11);
     }
 
     private static void toward() {

@@ -176,6 +176,8 @@ public final class PlansEdgesTest {
     // ---- two cooks ----
 
     private static void gameIs(String griddle, int who, int turns, int his) {
+        CHECK.due("his(), asked first, of " + griddle, Check.with(griddle).his(), his);
+        CHECK.due("wins(1), asked first, of " + griddle, Check.with(griddle).wins(1), turns);
         HotCakes x = Check.with(griddle);
         CHECK.due("wins(0) of " + griddle, x.wins(0), who);
         CHECK.due("wins(1) of " + griddle, x.wins(1), turns);

@@ -34,6 +34,7 @@ public final class ReadingEdgesTest {
         firstAndLeast();
         oneTooMany();
         fromThenOn();
+        againAndAgain();
         allStays();
         instead();
         CHECK.end();
@@ -478,6 +479,14 @@ public final class ReadingEdgesTest {
         griddleIs("bars 1 *;", 1, 8);
         griddleIs("bars * 1;", 1, 5);
         griddleIs("bars 1 + * 1;", 1, 9);
+        griddleIs("bars take +;", 1, 11);
+        griddleIs("bars brown *)", 1, 12);
+        griddleIs("bars left <", 1, 11);
+        griddleIs("bars weight and ;", 1, 16);
+        griddleIs("bars take and - 1;", 1, 14);
+        griddleIs("bars take + ?", 1, 12);
+        griddleIs("bars take + abcdefghi", 1, 12);
+        griddleIs("bars take + 12345", 1, 12);
         CHECK.sentence("Terms 1", "PART: a NUMBER, a fact, not PART, ( E )");
         lawIs("not 0 + 4", 1, 5);
         lawIs("not 1 < 1", 1, 1);
@@ -698,6 +707,15 @@ public final class ReadingEdgesTest {
         CHECK.sentence("Terms 1, promise 3", "the STACK as told");
         CHECK.due("in its order", busyThen(next).there(0) * 10 + busyThen(next).there(2), 2);
         CHECK.due("lying so", x.cake(0, 3) * 10 + x.cake(1, 3), 1);
+        String up = "cake a browned wide 1 up;";
+        for (String first : new String[] {up, up + " ?", up + " bars"}) {
+            HotCakes down = new HotCakes();
+            Check.griddle(down, first);
+            Check.griddle(down, "cake a browned wide 1 down;");
+            CHECK.due("down, whatever was read ahead", down.cake(0, 3) * 10 + down.nth(), 0);
+            Check.griddle(down, "cake a browned wide 1 down; costs 2;");
+            CHECK.due("and once more", down.cake(0, 3) * 10 + down.nth(), 0);
+        }
         HotCakes same = busyThen("cake pp browned wide 7 up ; cake qq glazed wide 4 down ;");
         CHECK.due("also where the same one is told again", same.cake(0, 3), 1);
         CHECK.sentence("Terms 1, promise 3", "no turns");
@@ -720,6 +738,24 @@ public final class ReadingEdgesTest {
         HotCakes marked = busyThen(next);
         for (int mark = 0; mark < 4; mark++) {
             CHECK.due("mark " + mark, marked.mark(mark, true), false);
+        }
+    }
+
+    /** What was read ahead takes no room of what is read now, however much it was, with a fault or without. */
+    private static void againAndAgain() {
+        CHECK.sentence("Terms 1, promise 3, again and again", "Without a FAULT a GRIDDLE is the GRIDDLE from then on");
+        HotCakes x = new HotCakes();
+        for (int i = 0; i < 10; i++) {
+            String law = (i % 9 + 1) + "+1-1".repeat(220);
+            CHECK.due("a long law", Check.griddle(x, "cake a plain wide 1 up; costs " + law + ";"), 0);
+            CHECK.due("says what it says", x.cost(1), i % 9 + 1);
+        }
+        HotCakes y = new HotCakes();
+        for (int i = 0; i < 80; i++) {
+            String text = "cake a plain wide 1 up; costs " + (i % 9 + 1) + ";";
+            boolean spoilt = i % 4 == 3;
+            CHECK.due("a short law", Check.griddle(y, spoilt ? text + "?" : text), spoilt ? 1 + 16 * text.length() : 0);
+            CHECK.due("says what it says", y.cost(1), (spoilt ? i - 1 : i) % 9 + 1);
         }
     }
 

@@ -17,6 +17,7 @@ public final class SeenEdgesTest {
         fit();
         look();
         lookFirst();
+        lookAmongMany();
         chanceRefused();
         chance();
         ever();
@@ -183,6 +184,43 @@ public final class SeenEdgesTest {
         CHECK.due("the third and the fourth", y.look(), 2);
     }
 
+    /** Cakes by their kinds' letters, then what is seen: sPC a cake at a place, S not, lP up at a place, L not. */
+    private static void lookIs(int place, int fit, String kinds, String... seen) {
+        StringBuilder text = new StringBuilder();
+        for (int i = 0; i < kinds.length(); i++) {
+            char kind = kinds.charAt(i);
+            text.append("cake ").append((char) ('a' + i)).append(' ')
+                .append(kind == 'p' ? "plain" : kind == 'b' ? "browned" : kind == 'h' ? "heavy" : "glazed")
+                .append(" wide ").append(i + 1).append(" down; ");
+        }
+        HotCakes x = Check.with(text.toString());
+        for (String each : seen) {
+            boolean so = each.charAt(0) >= 'a';
+            int at = each.charAt(1) - '0';
+            boolean told = each.length() > 2 ? x.see(at, each.charAt(2) - '0', so) : x.lies(at, so);
+            CHECK.due("seen " + each, told, true);
+        }
+        CHECK.due("fit() of " + kinds + " " + String.join(" ", seen), x.fit(), fit);
+        CHECK.due("look() of " + kinds + " " + String.join(" ", seen), x.look(), place);
+    }
+
+    /** Worked out by another program. */
+    private static void lookAmongMany() {
+        CHECK.sentence("Terms 3, promise 42, of some, or many", "the same CAKE, lying the same way");
+        // the greatest numbers by place: 36 24 24 24 24; 6 8 5 5; 12 4 4 2; 12 48 12 12 6
+        lookIs(1, 72, "hgghh", "S43", "l0");
+        lookIs(2, 10, "bhbh", "L1", "l0", "S10", "S11");
+        lookIs(3, 12, "pbbb", "L1", "s00", "s00", "S01", "l2");
+        lookIs(4, 48, "bbbbp", "s14", "S12", "L0", "L3", "l2");
+        // 288 192 288 384 288; 32 32 16 32 32; 12 12 12 6; 48 32 112 32 24
+        lookIs(1, 1248, "pgbbb", "S10", "S31");
+        lookIs(2, 64, "ggpbg", "S33", "s34", "s00", "S22");
+        lookIs(3, 36, "bggb", "S03", "l2", "l1", "l0");
+        lookIs(4, 112, "gbbhb", "S43", "l2", "S02", "s21");
+        lookIs(1, 2, "bb", "s00", "l0");
+        lookIs(0, 2, "bb", "s11", "L1");
+    }
+
     // ---- chance ----
 
     private static void chanceRefused() {
@@ -224,8 +262,11 @@ public final class SeenEdgesTest {
         CHECK.due("all", Check.with(Check.stack("plain", 1)).chance(6, false), 1000000);
         CHECK.due("none", Check.with(Check.stack("browned", 1)).chance(1, false), 0);
         HotCakes x = three();
-        x.chance(6, false);
+        int sixth = x.chance(6, false);
         CHECK.due("it is as it was", x.count(2) * 10 + x.there(0), 0);
+        CHECK.due("asked again", x.chance(6, false), sixth);
+        CHECK.due("asked behind other questions", x.ways() + x.wins(0) >= 0 ? x.chance(1, false) : -9, 0);
+        CHECK.due("asked again, once", x.chance(1, false), 0);
     }
 
     private static void ever() {

@@ -105,7 +105,12 @@ public final class TurningEdgesTest {
         }
         CHECK.due("place 0 of no cakes", new HotCakes().there(0), -1);
         CHECK.due("place 4 of five", Check.with(Check.stack("plain", 1, 2, 3, 4, 9)).there(4), 4);
-        CHECK.due("place 5 of five", Check.with(Check.stack("plain", 1, 2, 3, 4, 9)).there(5), -1);
+        HotCakes five = Check.with(Check.stack("plain", 1, 2, 3, 4, 9));
+        for (int many = 1; many <= 5; many++) {
+            five.turn(many);
+            CHECK.due("place 5 of five", five.there(5), -1);
+            CHECK.due("place -1 of five", five.there(-1), -1);
+        }
     }
 
     // ---- turning ----
@@ -418,6 +423,19 @@ public final class TurningEdgesTest {
         full.mark(0, false);
         CHECK.due("all 8 that are seen", full.mark(0, true) && full.count(7) == 8 && full.fit() == 6, true);
         CHECK.due("are full then, too", full.lies(0, true), false);
+        HotCakes seen = Check.with(two);
+        seen.mark(0, false);
+        seen.see(0, 0, true);
+        seen.lies(0, true);
+        seen.mark(1, false);
+        seen.mark(0, true);
+        seen.see(1, 2, true);
+        seen.see(0, 1, true);
+        CHECK.due("other things are seen: one order", seen.fit(), 8);
+        seen.mark(2, false);
+        CHECK.due("then what was: 0 up on top", seen.mark(1, true) && seen.fit() == 8 && seen.see(0, 0, true), true);
+        CHECK.due("on top it is", seen.fit(), 8);
+        CHECK.due("then what was then: 1 2 0", seen.mark(2, true) && seen.see(2, 0, true) && seen.fit() == 8, true);
         CHECK.sentence("Terms 3", "(nothing can be undone when one is gone back to)");
         HotCakes y = Check.with(two);
         y.turn(1);
