@@ -33,7 +33,7 @@ public final class RandomRunsTest {
     private String run(int seed) {
         int limit = 20 + random.nextInt(160);
         if (random.nextInt(10) > 0) {
-            String wrong = read(0, griddleText(seed % 6));
+            String wrong = read(0, seed % 10 == 0 ? tableText() : griddleText(seed % 6));
             if (wrong != null) {
                 return wrong;
             }
@@ -92,6 +92,31 @@ public final class RandomRunsTest {
             text.append("bars ").append(mildLaw()).append(" ; ");
         }
         return text.toString();
+    }
+
+    /** Widths by which weight tells just which cakes are turned, and a law that bars some of these as they lie. */
+    private String tableText() {
+        int cakes = 4 + random.nextInt(2);
+        int plain = random.nextInt(2 * cakes);
+        int shift = random.nextInt(cakes);
+        int often = 3 + random.nextInt(3);
+        StringBuilder text = new StringBuilder();
+        for (int i = 0; i < cakes; i++) {
+            text.append("cake ").append(NAMES[i]).append(i == plain ? " plain" : " browned").append(" wide ")
+                .append(1 << (i + shift) % cakes).append(random.nextBoolean() ? " up ; " : " down ; ");
+        }
+        text.append("bars 0 ");
+        for (int brown = 0; brown <= cakes; brown++) {
+            StringBuilder sets = new StringBuilder();
+            for (int set = 1; set < 1 << cakes; set++) {
+                boolean barred = Integer.bitCount(set) >= brown && random.nextInt(often) == 0;
+                sets.append(barred ? (sets.length() > 0 ? "or " : "") + "weight=" + set : "");
+            }
+            if (sets.length() > 0 && text.length() + sets.length() < 900) {
+                text.append("or(brown=").append(brown).append(" and(").append(sets).append(")) ");
+            }
+        }
+        return text.append(random.nextBoolean() ? "; costs take + brown * 2 ; " : "; ").toString();
     }
 
     /** A law that does not bar all. */

@@ -138,6 +138,18 @@ public final class TurningEdgesTest {
             shapeIs("all is as it was", x, "1u23u45u");
             CHECK.due("none was turned", x.count(2) + x.count(3) + x.count(8), 0);
         }
+        HotCakes turned = Check.with(Check.stack("browned", 1, 2, 3) + "costs 5;");
+        for (int many = 1; many <= 3; many++) {
+            turned.turn(many);
+            for (int none : new int[] {0, -1, 4, 5}) {
+                CHECK.due("can(" + none + ") behind turns", turned.can(none), false);
+                CHECK.due("turn(" + none + ") behind turns", turned.turn(none), -1);
+                CHECK.due("cost(" + none + ") behind turns", turned.cost(none), -1);
+                CHECK.due("without(" + none + ") behind turns", turned.without(none), -1);
+                CHECK.due("ring(" + none + ", 1) behind turns", turned.ring(none, 1), -1);
+                CHECK.due("ring(1, " + none + ") behind turns", turned.ring(1, none), -1);
+            }
+        }
         CHECK.due("1 of no cakes", new HotCakes().turn(1), -1);
         CHECK.due("0 of no cakes", new HotCakes().turn(0), -1);
         CHECK.due("2 of one", one.turn(2), -1);
