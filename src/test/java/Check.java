@@ -9,6 +9,11 @@ final class Check {
         promise = "promise " + number + ", " + name;
     }
 
+    /** What follows is for something else than the document. */
+    void about(String what) {
+        promise = what;
+    }
+
     /** What follows is for these words of the document, and fails if they are broken. */
     void sentence(String where, String words) {
         promise = where + " '" + words + "'";

@@ -88,8 +88,16 @@ public final class FaceTest {
             CHECK.due("static and not public: " + each,
                 Modifier.isStatic(each.getModifiers()) && !Modifier.isPublic(each.getModifiers()), true);
             fields(each);
+            parameters(each);
         }
         fields(HotCakes.class);
+        parameters(HotCakes.class);
+    }
+
+    private static void parameters(Class<?> each) {
+        for (Method method : each.getDeclaredMethods()) {
+            CHECK.due("at most seven parameters: " + method, method.getParameterCount() <= 7, true);
+        }
     }
 
     private static void fields(Class<?> each) {

@@ -32,6 +32,7 @@ public final class ReadingEdgesTest {
         values();
         places();
         firstAndLeast();
+        kinds();
         oneTooMany();
         fromThenOn();
         againAndAgain();
@@ -658,6 +659,35 @@ public final class ReadingEdgesTest {
         wishIs("pp rr", 1, 3);
         wishIs("pp up qq up pp", 1, 12);
         wishIs("pp up qq up rr", 1, 12);
+    }
+
+    private static void kinds() {
+        CHECK.sentence("Terms 1", "2 a NAME of no CAKE (in a WISH) told");
+        wishIs("rr", 2, 0);
+        wishIs("pp down rr", 2, 8);
+        wishIs("qqq", 2, 0);
+        for (String fact : FACTS) {
+            wishIs("pp up " + fact, 2, 6);
+        }
+        for (String reserved : RESERVED) {
+            wishIs("pp up " + reserved, 1, 6);
+        }
+        CHECK.sentence("Terms 1",
+            "3 a NAME told already; a width told already; a CAKE a second time in a WISH; bars, costs a second time");
+        griddleIs("cake take plain wide 1 up; cake take", 3, 32);
+        griddleIs("cake a plain wide 1 up; cake b plain wide 01", 3, 42);
+        wishIs("pp up pp", 3, 6);
+        wishIs("qq up\n qq ?", 3, 7);
+        griddleIs("bars 0; bars", 3, 8);
+        griddleIs("costs 0; bars 0; costs ?", 3, 17);
+        CHECK.sentence("Terms 1", "4 a NUMBER that is not as told");
+        griddleIs("cake a plain wide 0", 4, 18);
+        griddleIs("cake a plain wide 31up", 4, 18);
+        griddleIs("cake a plain wide 1 up; cake b plain wide 00", 4, 42);
+        planIs("turn 1; turn 0", 4, 13);
+        planIs("turn 3", 4, 5);
+        CHECK.due("no cakes, no turns", Check.plan(new HotCakes(), "turn 1;"), 4 + 16 * 5);
+        griddleIs("bars 0; costs 9999;", 0, 0);
     }
 
     private static void oneTooMany() {

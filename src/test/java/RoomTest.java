@@ -106,21 +106,20 @@ public final class RoomTest {
     private static void room() {
         CHECK.promise(1, "the room");
         ThreadMXBean threads = (ThreadMXBean) ManagementFactory.getThreadMXBean();
-        long thread = Thread.currentThread().getId();
         HotCakes x = new HotCakes();
-        long before = threads.getThreadAllocatedBytes(thread);
+        long before = threads.getCurrentThreadAllocatedBytes();
         x = new HotCakes();
-        long made = threads.getThreadAllocatedBytes(thread) - before;
+        long made = threads.getCurrentThreadAllocatedBytes() - before;
         CHECK.due("a new object takes less than 100,000 fields and elements: bytes " + made, made < 400000, true);
         CHECK.due("griddle", Check.griddle(x, FIVE), 0);
-        before = threads.getThreadAllocatedBytes(thread);
+        before = threads.getCurrentThreadAllocatedBytes();
         long sum = 0;
         for (int call = 0; call < 480; call++) {
             int which = call % 46;
             boolean dear = which != 0 && which != 1 && which != 42;
             sum += dear ? all(x, which, call % 5 + 1, 1, 1, 1, FIXED) : 0;
         }
-        made = threads.getThreadAllocatedBytes(thread) - before;
+        made = threads.getCurrentThreadAllocatedBytes() - before;
         CHECK.due("480 calls make no rows of their own: bytes " + made + ", sum " + sum, made < 20000, true);
     }
 
